@@ -1,0 +1,146 @@
+import java.util.NoSuchElementException;
+
+/** What the tests share: texts put on the tape, answers compared, a count of the wrong ones. */
+final class Due {
+    private static int wrong = 0;
+    private static int asked = 0;
+
+    private Due() {
+    }
+
+    /** A throwing call, to be looked at by {@link #noSuch}. */
+    interface Call {
+        int answer();
+    }
+
+    static void same(String what, long got, long want) {
+        asked++;
+        if (got != want) {
+            wrong++;
+            System.out.println(what + " answered " + got + ", due is " + want);
+        }
+    }
+
+    static void same(String what, String got, String want) {
+        asked++;
+        if (!got.equals(want)) {
+            wrong++;
+            System.out.println(what + " answered\n  " + got + "\ndue is\n  " + want);
+        }
+    }
+
+    static void yes(String what, boolean got) {
+        same(what, got ? 1 : 0, 1);
+    }
+
+    static void no(String what, boolean got) {
+        same(what, got ? 1 : 0, 0);
+    }
+
+    static void noSuch(String what, Call call) {
+        asked++;
+        try {
+            int got = call.answer();
+            wrong++;
+            System.out.println(what + " answered " + got + ", due is a NoSuchElementException");
+        } catch (NoSuchElementException e) {
+            return;
+        }
+    }
+
+    /** The tape holds this text and nothing else. */
+    static void tape(ShadowHeirs x, String text) {
+        int[] bytes = new int[text.length()];
+        for (int i = 0; i < bytes.length; i++) {
+            bytes[i] = text.charAt(i);
+        }
+        tape(x, bytes);
+    }
+
+    static void tape(ShadowHeirs x, int... bytes) {
+        x.end(0);
+        int[] numbers = new int[(bytes.length + 19) / 20 * 5];
+        for (int i = 0; i < bytes.length; i++) {
+            numbers[i / 4] |= (bytes[i] & 255) << 24 - i % 4 * 8;
+        }
+        for (int i = 0; i < numbers.length; i += 5) {
+            x.feed(numbers[i], numbers[i + 1], numbers[i + 2], numbers[i + 3], numbers[i + 4]);
+        }
+        if (!x.end(bytes.length)) {
+            throw new IllegalStateException("a text too long for the tape");
+        }
+    }
+
+    static int island(ShadowHeirs x, String text) {
+        tape(x, text);
+        return x.island();
+    }
+
+    static int book(ShadowHeirs x, String text, int lives) {
+        tape(x, text);
+        return x.book(lives);
+    }
+
+    static int sentence(ShadowHeirs x, String text) {
+        tape(x, text);
+        return x.sentence();
+    }
+
+    static ShadowHeirs made(String text) {
+        ShadowHeirs x = new ShadowHeirs();
+        int lines = island(x, text);
+        if (lines < 0) {
+            throw new IllegalStateException("a FAULT in the text of a test at " + (-1 - lines) + ": " + text);
+        }
+        return x;
+    }
+
+    static String slip(ShadowHeirs x, int p) {
+        StringBuilder text = new StringBuilder();
+        int size = x.slip(p);
+        for (int i = 0; i < size; i++) {
+            text.append((char) x.byteAt(i));
+        }
+        return text.toString();
+    }
+
+    static String times(String text, int n) {
+        return text.repeat(n);
+    }
+
+    /** All that can be asked of how things are, for comparing before with after. */
+    static String state(ShadowHeirs x) {
+        StringBuilder all = new StringBuilder();
+        for (int what = 0; what <= 4; what++) {
+            all.append(x.count(what)).append(' ');
+        }
+        for (int what = 0; what <= 7; what++) {
+            all.append(x.now(what)).append(' ');
+        }
+        for (int h = 0; h < x.count(2); h++) {
+            for (int what = 0; what <= 5; what++) {
+                all.append(x.house(h, what)).append(' ');
+            }
+        }
+        for (int p = 0; p < x.count(3); p++) {
+            for (int what = 0; what <= 4; what++) {
+                all.append(x.person(p, what)).append(' ');
+            }
+        }
+        for (int y = 0; y < x.count(1); y++) {
+            for (int cx = 0; cx < x.count(0); cx++) {
+                for (int what = 0; what <= 3; what++) {
+                    all.append(x.cell(cx, y, what)).append(' ');
+                }
+            }
+        }
+        return all.toString();
+    }
+
+    static void finish(String test) {
+        System.out.println(test + ": " + asked + " answers, " + wrong + " of them wrong");
+        if (wrong != 0 || asked == 0) {
+            System.exit(1);
+        }
+    }
+}
