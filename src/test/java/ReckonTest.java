@@ -50,6 +50,10 @@ public final class ReckonTest {
         Due.same("no such p", x.best(-1, 0), -1);
         Due.same("no such h", x.best(0, 2), -1);
         Due.same("no such h", x.best(0, -1), -1);
+        ShadowHeirs all = Due.made("house a 0 0 9 9;person p 1 0;person q 1 0;person r 1 0;person s 1 0;person t 1 0;"
+            + "person u 1 0;sun west 1;sun east 1;");
+        Due.same("a sixth is the best there is", all.best(5, 0), 1);
+        Due.same("a sixth", all.share(5, 0, 1, 1), 6);
     }
 
     private static void sparing() {
@@ -84,6 +88,9 @@ public final class ReckonTest {
         ShadowHeirs between = Due.made("house a 0 0 9 9;house b 1 0 1 1;person p 2 0;sun east 1;");
         Due.same("not on a house", between.spare(0, 0, 0), -1);
         Due.same("stays for a new ISLAND", spareOver(x), 16);
+        ShadowHeirs most = Due.made("house a 0 0 9 9;person p 2 0;sun east 1;");
+        Due.same("as many as there can be", most.spare(0, 0, 0), 8);
+        Due.same("there", most.spareAt(), 1);
     }
 
     private static int spareOver(ShadowHeirs x) {

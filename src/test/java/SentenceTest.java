@@ -69,6 +69,8 @@ public final class SentenceTest {
         Due.same("20 ONES", Due.sentence(x, twenty), 20);
         marked(twenty + " or @poor", 4);
         marked(twenty + " and @(", 4);
+        marked("poor" + Due.times(" and poor", 19) + " and @poor", 4);
+        marked("poor" + Due.times(" and poor", 19) + " or @poor", 4);
         marked(twenty + " and @of", 4);
         marked(twenty + " and @of sea", 4);
         marked(twenty + " and @ann", 1);
