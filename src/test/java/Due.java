@@ -4,6 +4,7 @@ import java.util.NoSuchElementException;
 final class Due {
     private static int wrong = 0;
     private static int asked = 0;
+    private static String heading = "";
 
     private Due() {
     }
@@ -13,19 +14,35 @@ final class Due {
         int answer();
     }
 
+    /** What is asked from here on belongs under this heading, which is printed ahead of its first wrong answer. */
+    static void under(String text) {
+        heading = text;
+    }
+
+    static int asked() {
+        return asked;
+    }
+
+    private static void tellWrong(String text) {
+        wrong++;
+        if (!heading.isEmpty()) {
+            System.out.println("[" + heading + "]");
+            heading = "";
+        }
+        System.out.println(text);
+    }
+
     static void same(String what, long got, long want) {
         asked++;
         if (got != want) {
-            wrong++;
-            System.out.println(what + " answered " + got + ", due is " + want);
+            tellWrong(what + " answered " + got + ", due is " + want);
         }
     }
 
     static void same(String what, String got, String want) {
         asked++;
         if (!got.equals(want)) {
-            wrong++;
-            System.out.println(what + " answered\n  " + got + "\ndue is\n  " + want);
+            tellWrong(what + " answered\n  " + got + "\ndue is\n  " + want);
         }
     }
 
@@ -41,8 +58,7 @@ final class Due {
         asked++;
         try {
             int got = call.answer();
-            wrong++;
-            System.out.println(what + " answered " + got + ", due is a NoSuchElementException");
+            tellWrong(what + " answered " + got + ", due is a NoSuchElementException");
         } catch (NoSuchElementException e) {
             return;
         }
