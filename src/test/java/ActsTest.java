@@ -184,19 +184,19 @@ public final class ActsTest {
         ShadowHeirs x = Due.made(TEXT);
         String[] before = new String[20];
         int n = 0;
-        before[n++] = Due.state(x);
+        before[n++] = brief(x);
         x.go(0, 3);
-        before[n++] = Due.state(x);
+        before[n++] = brief(x);
         x.lay(4, 0);
-        before[n++] = Due.state(x);
+        before[n++] = brief(x);
         x.tear(3, 1);
-        before[n++] = Due.state(x);
+        before[n++] = brief(x);
         x.bury(0);
-        before[n++] = Due.state(x);
+        before[n++] = brief(x);
         x.hours(5);
-        before[n++] = Due.state(x);
+        before[n++] = brief(x);
         x.drawn(3, 9);
-        before[n++] = Due.state(x);
+        before[n++] = brief(x);
         Due.book(x, "hour 2;", 1);
         // none of these is an act that was done
         x.go(9, 9);
@@ -221,12 +221,17 @@ public final class ActsTest {
         x.odds(0, 3, 3);
         for (int i = n - 1; i >= 0; i--) {
             Due.same("undo", x.undo(), i);
-            Due.same("as before act " + i, Due.state(x), before[i]);
+            Due.same("as before act " + i, brief(x), before[i]);
         }
         Due.same("no more", x.undo(), -1);
         Due.same("the SENTENCE stays", x.said(-1), 4);
+    }
+
+    private static void eightAreKept() {
+        ShadowHeirs x = Due.made(TEXT);
+        int[] before = new int[11];
         for (int i = 0; i < 11; i++) {
-            before[i] = Due.state(x);
+            before[i] = x.cell(1, 2, 0);
             x.lay(1, 2);
             if (i == 5) {
                 x.undo();
@@ -237,9 +242,24 @@ public final class ActsTest {
         Due.same("nine high by nine", x.cell(1, 2, 0), 9);
         for (int i = 7; i >= 0; i--) {
             Due.same("eight are kept", x.undo(), i);
-            Due.same("as before", Due.state(x), before[i + 1]);
+            Due.same("as before", x.cell(1, 2, 0), before[i + 1]);
         }
         Due.same("no more", x.undo(), -1);
+    }
+
+    /** What acts change, in few calls. */
+    private static String brief(ShadowHeirs x) {
+        StringBuilder all = new StringBuilder();
+        for (int what = 0; what <= 7; what++) {
+            all.append(x.now(what)).append(' ');
+        }
+        for (int p = 0; p < 4; p++) {
+            for (int what = 0; what <= 2; what++) {
+                all.append(x.person(p, what)).append(' ');
+            }
+        }
+        return all.append(x.house(0, 3)).append(' ').append(x.house(1, 3)).append(' ').append(x.cell(3, 1, 0))
+            .append(' ').append(x.cell(4, 0, 0)).append(' ').append(x.cell(1, 2, 0)).toString();
     }
 
     public static void main(String[] args) {
@@ -251,6 +271,7 @@ public final class ActsTest {
         burials();
         hoursGo();
         undone();
+        eightAreKept();
         Due.finish("ActsTest");
     }
 }

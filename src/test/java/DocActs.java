@@ -168,6 +168,12 @@ final class DocActs {
             ShadowHeirs gone = Due.made("person p 0 0;");
             gone.go(0, 0);
             Due.same("nobody is there any more", gone.lay(0, 0), 0);
+            ShadowHeirs all = Due.made("ground 8 8;");
+            for (int i = 0; i < 64; i++) {
+                Due.same("in any cell", all.lay(i % 8, i / 8), 0);
+                Due.same("it is 1 higher", all.cell(i % 8, i / 8, 0), 1);
+                Due.same("and no other one", all.now(3), i + 1);
+            }
         });
         terms("To TEAR one off: 1 there are no stones: it is 1 lower.", () -> {
             ShadowHeirs x = Due.made("house a 0 0 9 0;person p 2 0;stones 3 0 9;");
@@ -183,6 +189,16 @@ final class DocActs {
             Due.same("none left", x.tear(3, 0), 1);
             Due.same("no lower", x.cell(3, 0, 0), 0);
             Due.same("one can go there", x.go(0, 0), 0);
+            StringBuilder full = new StringBuilder("ground 8 8;");
+            for (int i = 0; i < 64; i++) {
+                full.append("stones ").append(i % 8).append(' ').append(i / 8).append(" 2;");
+            }
+            ShadowHeirs all = Due.made(full.toString());
+            for (int i = 0; i < 64; i++) {
+                Due.same("in any cell", all.tear(i % 8, i / 8), 0);
+                Due.same("it is 1 lower", all.cell(i % 8, i / 8, 0), 1);
+                Due.same("and no other one", all.now(3), 127 - i);
+            }
         });
     }
 
@@ -300,6 +316,10 @@ final class DocActs {
             }
             Due.same("no sixth column", x.cell(5, 4, 0), -1);
             Due.same("no sixth row", x.cell(4, 5, 0), -1);
+            int[] nows = {0, -1, 0, 0, 0, 0, 0, 0};
+            for (int what = 0; what < 8; what++) {
+                Due.same("now " + what, x.now(what), nows[what]);
+            }
             Due.same("an empty tape is an ISLAND of no LINES", x.island(), 0);
         });
         says(2, "Twenty bytes come behind the tape, of each number the highest first: how many it has;", () -> {
@@ -348,6 +368,22 @@ final class DocActs {
             Due.tape(x, "sun east 1;");
             Due.yes("none", x.end(0));
             Due.same("is an ISLAND of none", x.island(), 0);
+            // what was cut is not read: neither blanks nor the rest of a TOKEN
+            for (int n = 0; n < 20; n++) {
+                x.feed(0x20202020, 0x20202020, 0x20202020, 0x20202020, 0x20202020);
+                x.end(n);
+                Due.same("the end of " + n + " blanks", x.sentence(), -1 - n);
+            }
+            x.feed(0x73756E20, 0x65617374, 0x20202020, 0x2031393B, 0x20202020);
+            x.end(9);
+            Due.same("sun east, and blanks cut", x.island(), -1 - 9);
+            x.feed(0x73756E20, 0x65617374, 0x20202020, 0x2031393B, 0x20202020);
+            x.end(14);
+            Due.same("sun east 1, cut in 19", x.island(), -1 - 14);
+            Due.same("1 is as told", x.fault(), 1);
+            x.feed(0x73756E20, 0x65617374, 0x20202020, 0x2031393B, 0x20202020);
+            x.end(6);
+            Due.same("cut in east", x.island(), -1 - 4);
         });
         says(3, "false, if it has not so many, or n is below 0.", () -> {
             ShadowHeirs x = new ShadowHeirs();
@@ -527,6 +563,11 @@ final class DocActs {
             Due.same("the other one is not", x.house(0, 4), 0);
             Due.same("its SHADOW, too", x.house(1, 5), 2);
             Due.same("all six", Due.made("house a 0 0 2 0;sun east 1;" + SIX_ON_ONE).house(0, 5), 63);
+            for (int i = 0; i < 64; i++) {
+                ShadowHeirs any = Due.made("ground 8 8;house a " + i % 8 + " " + i / 8 + " 1 1;");
+                Due.same("X in any cell", any.house(0, 0), i % 8);
+                Due.same("Y in any cell", any.house(0, 1), i / 8);
+            }
         });
         says(7, "NoSuchElementException: no such ones.", () -> {
             ShadowHeirs x = Due.made(SHADED);
@@ -561,6 +602,12 @@ final class DocActs {
             Due.same("walled in", Due.made("person p 0 0;stones 1 0 1;house a 0 1 1 1;").person(0, 4), 0);
             Due.same("to others he can", Due.made("person p 0 0;person q 1 0;person r 0 1;").person(0, 4), 3);
             Due.same("four HOUSES", Due.made(SHADED).person(0, 3), 27);
+            for (int i = 0; i < 64; i++) {
+                ShadowHeirs any = Due.made("ground 8 8;person p " + i % 8 + " " + i / 8 + ";");
+                Due.same("X in any cell", any.person(0, 0), i % 8);
+                Due.same("Y in any cell", any.person(0, 1), i / 8);
+                Due.same("SLIP in any cell", Due.slip(any, 0), "p at " + i % 8 + " " + i / 8 + " has 0");
+            }
         });
         says(8, "NoSuchElementException: no such ones.", () -> {
             ShadowHeirs x = Due.made(SHADED);

@@ -367,6 +367,11 @@ final class DocReckon {
             Due.same("it touches no cell", x.near(0, 0, 2), -1);
             Due.same("walled in", Due.made("person p 0 0;stones 1 0 1;stones 0 1 1;house a 4 4 2 0;sun north 1;")
                 .near(0, 0, 0), -1);
+            ShadowHeirs corner = Due.made("ground 3 3;house a 1 0 2 0;person p 0 2;person q 2 2;stones 1 2 1;stones 2 1 1;"
+                + "sun west 1;");
+            Due.same("into the corner", corner.near(0, 0, 0), 2);
+            Due.same("he is walled in, though others are not", corner.near(1, 0, 0), -1);
+            Due.same("nor is he in the crowd", corner.crowd(0, 0, 30), 1);
             Due.same("only stones are touched", Due.made("ground 2 2;person p 1 1;stones 1 0 1;house a 0 0 9 0;sun east 1;")
                 .near(0, 0, 0), -1);
             for (int p : new int[] {-1, 6, LEAST, MOST}) {
@@ -446,6 +451,16 @@ final class DocReckon {
             Due.same("t", x.ask(), 4);
             Due.same("one is left", when(x, 0, 1, 1), 1);
             Due.same("all are alike: the first", x.ask(), 0);
+            // at all eight hours b touches nobody: all are alike
+            Due.same("p", when(x, 0, 0, 1), 3);
+            Due.same("b", when(x, 1, 3, 0), 255);
+            Due.same("all are alike: the first", x.ask(), 0);
+            // of the HOUSE that is told
+            ShadowHeirs two = Due.made("house a 0 0 9 9;house b 0 4 9 9;person p 1 0;person q 1 4;sun east 1;sun west 1;");
+            Due.same("a", when(two, 0, 1, 0), 3);
+            Due.same("p tells", two.ask(), 0);
+            Due.same("b", when(two, 1, 0, 0), 3);
+            Due.same("q tells", two.ask(), 1);
             // who is TOUCHED at all but one is as good as who is not at all but one
             ShadowHeirs most = Due.made("house a 0 0 9 9;person p 4 4;person q 1 0;sun east 1;sun east 2;sun south 1;");
             Due.same("any", when(most, 0, 0, 0), 7);

@@ -278,6 +278,8 @@ final class DocTexts {
             Texts.islandFault(SIX_PERSONS + "house @u 1 1 1 1;", 3);
             Texts.islandFault(FIVE_HOUSES + "person @e 1 1;", 3);
             Texts.island("person a 0 0;person aa 0 0;person ab 0 0;person b 0 0;", 4);
+            // the WORDS of a SLIP are none of those
+            Texts.island("person at 0 0;house has 1 1 1 1;", 2);
             Texts.islandFault("person @1 0 0;", 1);
             Texts.islandFault("person @; 0 0;", 1);
         });
@@ -349,6 +351,9 @@ final class DocTexts {
             ShadowHeirs x = Due.made(Texts.PLACE);
             Due.same("book", Due.book(x, "bury hut;", 1), -1);
             Due.same("buried", x.now(2), 2);
+            Due.same("no HOUR goes", x.now(0), 0);
+            Due.same("book", Due.book(x, "bury hall;", 1), -1);
+            Due.same("both", x.now(2), 3);
             Texts.bookFault("bury@;", 1);
             Texts.bookFault("bury @0;", 1);
             Texts.bookFault("bury @ann;", 3);
@@ -429,6 +434,16 @@ final class DocTexts {
             Texts.sentence("not not not(poor)or not not not not(poor)and not not not not heir", 16);
             Texts.sentence("not(poor)and(poor)".repeat(1) + " or not(poor)and(poor)".repeat(3), 20);
             Texts.sentenceFault("not(poor)and(poor)" + " or not(poor)and(poor)".repeat(3) + " or @not poor", 4);
+            ShadowHeirs x = Due.made(Texts.PLACE);
+            Texts.said(x, "x=9 or ".repeat(19) + "x=5", 8);
+            Texts.said(x, "x=5" + " or x=9".repeat(19), 8);
+            Texts.said(x, "x>0 and ".repeat(19) + "x>1", 14);
+            Texts.said(x, "x>1" + " and x>0".repeat(19), 14);
+            Texts.said(x, "x=9 or y=0 and ".repeat(9) + "x=2 or x=5", 12);
+            Texts.said(x, "not ".repeat(7) + "x=5", 7);
+            Texts.said(x, "x=1 or (x=9 or (x=9 or (x=9 or (x=9 or (x=9 or (x=9 or (x=5)))))))", 9);
+            Texts.said(x, "x>0 and (x>0 and (x>0 and (x>0 and (x>0 and (x>0 and (x>0 and x=2))))))", 6);
+            Texts.said(x, "y=9 or y>0 and (y=9 or y>0 and (y=9 or y>0 and (y=9 or y>0 and (y=9 or y>0 and (y=1)))))", 11);
         });
         says("It is said of PERSONS.", () -> {
             ShadowHeirs none = Due.made("house a 0 0 1 1;sun east 1;");
@@ -517,6 +532,10 @@ final class DocTexts {
                 Texts.sentenceFault(words[w] + " @( 1", 1);
                 Texts.sentence(words[w] + " = 0", 1);
                 Texts.sentence(words[w] + " = 999", 1);
+            }
+            for (int i = 0; i < 64; i++) {
+                ShadowHeirs any = Due.made("ground 8 8;person p " + i % 8 + " " + i / 8 + ";");
+                Texts.said(any, "x = " + i % 8 + " and y = " + i / 8, 1);
             }
             Texts.sentenceFault("@ann = 1", 1);
             Texts.sentenceFault("@1 = x", 1);

@@ -34,9 +34,21 @@ final class DocTold {
     private static final class Dice {
         private final List<String> log = new ArrayList<>();
         private long x;
+        private int wide;
+        private int high;
+        private int houses;
+        private int persons;
 
         Dice(int seed) {
             x = seed;
+        }
+
+        Dice(int seed, ShadowHeirs o) {
+            x = seed;
+            wide = o.count(0);
+            high = o.count(1);
+            houses = o.count(2);
+            persons = o.count(3);
         }
 
         int draw(int n) {
@@ -49,17 +61,17 @@ final class DocTold {
 
     /** One HOUR by draws, done by the calls of the face. */
     private static void hourByCalls(ShadowHeirs x, Dice dice) {
-        for (int p = 0; p < x.count(3); p++) {
+        for (int p = 0; p < dice.persons; p++) {
             int act = dice.draw(6);
             if (act < 4) {
                 x.go(p, act);
             } else if (act == 4) {
-                int cx = dice.draw(x.count(0));
-                x.lay(cx, dice.draw(x.count(1)));
+                int cx = dice.draw(dice.wide);
+                x.lay(cx, dice.draw(dice.high));
             }
         }
-        if (dice.draw(10) == 0 && x.count(2) > 0) {
-            x.bury(dice.draw(x.count(2)));
+        if (dice.draw(10) == 0 && dice.houses > 0) {
+            x.bury(dice.draw(dice.houses));
         }
         x.hours(1);
     }
@@ -172,7 +184,7 @@ final class DocTold {
     private static void sameByCalls(String text, int seed, int n) {
         ShadowHeirs drawn = Due.made(text);
         ShadowHeirs called = Due.made(text);
-        Dice dice = new Dice(seed);
+        Dice dice = new Dice(seed, called);
         for (int i = 0; i < n; i++) {
             hourByCalls(called, dice);
         }
@@ -195,6 +207,8 @@ final class DocTold {
             for (int n : new int[] {1, 2, 59, 60}) {
                 sameByCalls(WIDE, 4242 + n, n);
             }
+            sameByCalls("ground 8 8;" + "house a 3 3 9 99;" + "person p 0 0;person q 1 1;person r 2 2;person s 3 4;"
+                + "person t 4 4;person u 5 5;sun north 1;", 31, 30);
             for (int left : new int[] {0, 1, 2, 59, 60}) {
                 ShadowHeirs x = at(WIDE, 400 - left);
                 String before = Due.state(x);
@@ -228,6 +242,22 @@ final class DocTold {
         return more;
     }
 
+    /** The first seed by which the first PERSON gets something in that HOUR, and nothing ahead of it. */
+    private static int seedOfFirst(String text, int hour) {
+        for (int seed = 0; seed < 100000; seed++) {
+            ShadowHeirs x = Due.made(text);
+            x.drawn(hour - 1, seed);
+            if (x.person(0, 2) == 0) {
+                x.undo();
+                x.drawn(hour, seed);
+                if (x.person(0, 2) > 0) {
+                    return seed;
+                }
+            }
+        }
+        throw new IllegalStateException("no seed by which something is got in HOUR " + hour);
+    }
+
     private static void odds() {
         says(31, "Of n (1 to 30) seeds x, x and 1, .. by how many a PERSON has more than now behind 20 HOURS DRAWN from now "
             + "on;", () -> {
@@ -255,6 +285,8 @@ final class DocTold {
             rich.bury(0);
             rich.bury(1);
             Due.same("nobody gets more than now", rich.odds(0, 30, 0), 0);
+            Due.same("who gets it in the 20th HOUR has it", Due.made(text).odds(0, 1, seedOfFirst(text, 20)), 1);
+            Due.same("who gets it in the 21st has it not", Due.made(text).odds(0, 1, seedOfFirst(text, 21)), 0);
         });
         says(31, "NONE: no such ones.", () -> {
             ShadowHeirs x = Due.made(WIDE);
@@ -528,13 +560,26 @@ final class DocTold {
             Due.same("no SENTENCE was kept there", x.said(-1), -1);
             Due.same("its HOUSES can be named", Due.sentence(x, "of hut"), 1);
             Due.yes("and again", x.restore(1));
-            Due.same("as kept", Due.state(x), second);
+            Due.same("the HOUR as kept", x.now(0), 3);
+        });
+        says(36, "are kept in place k", () -> {
+            ShadowHeirs x = Due.made(Texts.PLACE);
             x.hours(1);
-            String third = Due.state(x);
+            x.image(0);
+            x.hours(1);
+            x.image(1);
+            x.hours(1);
             Due.yes("anew", x.image(0));
             x.hours(1);
-            Due.yes("restore", x.restore(0));
-            Due.same("the latest one", Due.state(x), third);
+            Due.yes("restore 0", x.restore(0));
+            Due.same("the latest one", x.now(0), 3);
+            Due.yes("restore 1", x.restore(1));
+            Due.same("the other one is left alone", x.now(0), 2);
+            x.bury(0);
+            x.lay(0, 0);
+            x.go(0, 1);
+            Due.yes("restore 1", x.restore(1));
+            Due.same("acts behind restoring are not in the image", x.now(2) + x.now(6) + x.now(7), 0);
         });
         says(36, "false: no such one.", () -> {
             ShadowHeirs x = Due.made(Texts.PLACE);

@@ -1,6 +1,7 @@
 /** Promises 30 and 31: HOURS by draws and odds, each lived again here by the acts of the face. */
 public final class DrawnTest {
     private static int x;
+    private static int hoursLeft;
 
     private static int draw(int n) {
         x = x * 1103515245 + 12345;
@@ -9,25 +10,41 @@ public final class DrawnTest {
 
     private static int byActs(ShadowHeirs o, int n, int seed) {
         x = seed;
+        int wide = o.count(0);
+        int high = o.count(1);
+        int houses = o.count(2);
+        int persons = o.count(3);
         int gone = 0;
-        while (gone < n && o.now(0) < 400) {
-            for (int p = 0; p < o.count(3); p++) {
+        boolean isOver = o.now(0) == 400;
+        while (gone < n && !isOver) {
+            for (int p = 0; p < persons; p++) {
                 int act = draw(6);
                 if (act < 4) {
                     o.go(p, act);
                 } else if (act == 4) {
-                    int cx = draw(o.count(0));
-                    int cy = draw(o.count(1));
+                    int cx = draw(wide);
+                    int cy = draw(high);
                     o.lay(cx, cy);
                 }
             }
-            if (draw(10) == 0 && o.count(2) > 0) {
-                o.bury(draw(o.count(2)));
+            if (draw(10) == 0 && houses > 0) {
+                o.bury(draw(houses));
             }
             o.hours(1);
             gone++;
+            isOver = gone == hoursLeft;
         }
         return gone;
+    }
+
+    /** An object some HOURS ahead of the last one. */
+    private static ShadowHeirs made(String text, int left) {
+        ShadowHeirs o = Due.made(text);
+        for (int n = 400 - left; n > 0; n -= 60) {
+            o.hours(Math.min(n, 60));
+        }
+        hoursLeft = left;
+        return o;
     }
 
     private static final String[] TEXTS = {
@@ -42,28 +59,30 @@ public final class DrawnTest {
 
     private static void drawnIsByActs() {
         int[] seeds = {0, 1, 2, 3, 77, 12345, -1, Integer.MAX_VALUE, Integer.MIN_VALUE};
+        int[][] runs = {{1, 400}, {7, 399}, {40, 203}, {60, 20}, {60, 1}, {1, 1}, {2, 1}, {60, 0}};
         for (String text : TEXTS) {
             for (int seed : seeds) {
-                ShadowHeirs drawn = Due.made(text);
-                ShadowHeirs acted = Due.made(text);
-                for (int n : new int[] {1, 60, 7, 60, 60, 60, 60, 60, 60, 60, 1}) {
+                for (int[] run : runs) {
+                    ShadowHeirs acted = made(text, run[1]);
+                    ShadowHeirs drawn = made(text, run[1]);
                     String before = Due.state(drawn);
-                    int gone = drawn.drawn(n, seed + n);
-                    Due.same("drawn " + n, gone, byActs(acted, n, seed + n));
+                    int gone = drawn.drawn(run[0], seed);
+                    Due.same("drawn " + run[0] + " of " + run[1], gone, byActs(acted, run[0], seed));
                     String after = Due.state(drawn);
                     Due.same("the state by " + seed + " on " + text, after, Due.state(acted));
                     if (gone > 0) {
                         drawn.undo();
                         Due.same("undone whole", Due.state(drawn), before);
-                        drawn.drawn(n, seed + n);
-                        Due.same("and drawn again", Due.state(drawn), after);
+                        drawn.drawn(run[0], seed);
+                        Due.same("and drawn again", drawn.now(4) + 1000 * drawn.now(6) + 1000000 * drawn.now(7),
+                            acted.now(4) + 1000 * acted.now(6) + 1000000 * acted.now(7));
                     }
                 }
-                Due.same("all are over", drawn.drawn(1, seed), 0);
-                Due.same("n 0", drawn.drawn(0, seed), -1);
-                Due.same("n -1", drawn.drawn(-1, seed), -1);
-                Due.same("n 61", drawn.drawn(61, seed), -1);
             }
+            ShadowHeirs wrong = Due.made(text);
+            Due.same("n 0", wrong.drawn(0, 1), -1);
+            Due.same("n -1", wrong.drawn(-1, 1), -1);
+            Due.same("n 61", wrong.drawn(61, 1), -1);
         }
     }
 
@@ -83,9 +102,9 @@ public final class DrawnTest {
         for (String text : TEXTS) {
             for (int seed : seeds) {
                 for (int n : new int[] {1, 2, 30}) {
-                    ShadowHeirs o = Due.made(text);
-                    o.hours(3);
-                    for (int p = 0; p < o.count(3); p++) {
+                    for (int p = 0; p < Due.made(text).count(3); p++) {
+                        ShadowHeirs o = Due.made(text);
+                        o.hours(3);
                         int more = 0;
                         int has = o.person(p, 2);
                         for (int i = 0; i < n; i++) {

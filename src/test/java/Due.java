@@ -124,30 +124,40 @@ final class Due {
         return text.repeat(n);
     }
 
-    /** All that can be asked of how things are, for comparing before with after. */
+    /**
+     * All that is so, for comparing before with after, in as few calls as will do: an object has 512 in all, of which
+     * this takes some 70 on a ground of 6 by 4 and some 180 at most.
+     */
     static String state(ShadowHeirs x) {
         StringBuilder all = new StringBuilder();
-        for (int what = 0; what <= 4; what++) {
-            all.append(x.count(what)).append(' ');
-        }
+        int wide = x.count(0);
+        int high = x.count(1);
+        int houses = x.count(2);
+        int persons = x.count(3);
+        int hours = x.count(4);
+        all.append(wide).append(" by ").append(high).append(", hours: ").append(hours).append('\n');
         for (int what = 0; what <= 7; what++) {
             all.append(x.now(what)).append(' ');
         }
-        for (int h = 0; h < x.count(2); h++) {
+        for (int h = 0; h < houses; h++) {
+            all.append("\n  house ").append(h).append(": ");
             for (int what = 0; what <= 5; what++) {
                 all.append(x.house(h, what)).append(' ');
             }
+            for (int hour = 0; hour < hours; hour++) {
+                all.append(x.shadow(h, hour)).append(' ');
+            }
         }
-        for (int p = 0; p < x.count(3); p++) {
+        for (int p = 0; p < persons; p++) {
+            all.append("\n  person ").append(p).append(": ");
             for (int what = 0; what <= 4; what++) {
                 all.append(x.person(p, what)).append(' ');
             }
         }
-        for (int y = 0; y < x.count(1); y++) {
-            for (int cx = 0; cx < x.count(0); cx++) {
-                for (int what = 0; what <= 3; what++) {
-                    all.append(x.cell(cx, y, what)).append(' ');
-                }
+        for (int y = 0; y < high; y++) {
+            all.append("\n  ");
+            for (int cx = 0; cx < wide; cx++) {
+                all.append(x.cell(cx, y, 0)).append(' ');
             }
         }
         return all.toString();

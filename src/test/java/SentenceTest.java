@@ -210,14 +210,14 @@ public final class SentenceTest {
         Due.no("restore 2", x.restore(2));
         Due.same("a false one leaves all", x.undo(), 0);
         Due.yes("restore 0 again", x.restore(0));
-        Due.same("as kept", Due.state(x), first);
+        Due.same("as kept", x.now(7), 1);
         x.hours(1);
         x.image(0);
         x.hours(1);
         Due.yes("restore 0", x.restore(0));
         Due.same("the latest image", x.now(0), 1);
         Due.yes("place 1 is its own", x.restore(1));
-        Due.same("as kept", Due.state(x), second);
+        Due.same("as kept", x.now(0), 3);
     }
 
     public static void main(String[] args) {
